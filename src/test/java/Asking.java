@@ -287,6 +287,8 @@ final class Asking extends Script {
         on("c").giveUp(14);
         due(0, x.box(14, 1));
         due(1, x.count(7));
+        on("c").ask(0);
+        due(2, x.count(7));
     }
 
     void write() {

@@ -92,6 +92,11 @@ final class LoadsThatRun extends Script {
         due(1, on("a").entry(5));
         due(2, on("a").entry(6));
         due(19, x.count(1));
+        // as heavy as all the room
+        x.step(1);
+        due(9, on("a").ask(0));
+        due(0, on("a").came(10, 20, 0));
+        dueText("a 10 w20 c3", entries());
     }
 
     void cameMadeNewAboveRoom() {

@@ -53,6 +53,8 @@ final class OtherRules extends Script {
         // by lfu c takes b's place; by aged a's, whose count is 2 behind the 4th, like b's, and asked less lately
         due(5, on("a a a a b b c a").replay(1, 2));
         due(4, on("a a a a b b c a").replay(3, 2));
+        // halved behind the 8th too: when c comes, a and b both count 2, and a was asked for less lately
+        due(8, on("a a a a a b b a b c b").replay(3, 2));
         x.rule(1, 500);
         due(5, on("a a a a b b c a").replay(3, 2));
         x.rule(1, 1);

@@ -105,43 +105,53 @@ final class WhatCameToPass extends Script {
         dueText("a 1 w5 c1", entries());
     }
 
-    /** A state of which no part is empty, and then other calls that change each part. */
+    /** Laid back behind other calls that change each part, it goes on as one that never made those calls. */
     void imageKeepsAll() {
+        WhatCameToPass plain = new WhatCameToPass();
+        plain.change("a", "g", "o", 3);
         change("a", "g", "o", 3);
         String before = everything();
+        dueText(plain.everything(), before);
         x.image();
         change("x", "yy", "abc", 4);
-        dueText("true", String.valueOf(!before.equals(everything())));
+        for (String part : everything().split("\\|")) {
+            due(-1, before.indexOf("|" + part + "|"));
+        }
         x.back();
         dueText(before, everything());
-        // what comes next goes on as it would have
+        plain.change("q", "rr", "abd", 5);
         change("q", "rr", "abd", 5);
-        String then = everything();
+        dueText(plain.everything(), everything());
+        due(plain.x.flush(), x.flush());
+        dueText(plain.everything(), everything());
         x.back();
-        change("q", "rr", "abd", 5);
-        dueText(then, everything());
+        dueText(before, everything());
     }
 
     private void change(String one, String two, String three, int n) {
-        x.rule(1, 4 + n);
+        x.rule(1, 5);
         x.rule(2, 30 + n);
         x.rule(3, 4);
-        x.rule(4, 1 + n % 3);
+        x.rule(4, 8);
+        x.rule(5, 0);
         x.rule(6, 2 + n);
         x.rule(7, 40 + n);
         bring(one, n, 9, 1);
         bring(two, n + 1, 9, 3);
         x.step(n);
         bring(three, n + 2, 9, 2);
-        on(two).write(50 + n);
         on(three).write(60 + n);
+        on(two).write(50 + n);
+        on("k" + two).write(n);
         x.rule(5, n % 2);
-        x.step(2);
+        x.rule(4, 1);
+        x.step(4);
         on(three).ask(n);
         on("l" + one).ask(n);
         on("l" + two).ask(n + 1);
         on("l" + three).ask(n + 2);
         on("m" + one).ask(n + 2);
+        on(three).failed(n);
         on("l" + one).failed(n);
     }
 
@@ -152,9 +162,16 @@ final class WhatCameToPass extends Script {
         for (int i = 0; i < 120; i++) {
             all.append(x.book(i / 3, i % 3)).append(' ');
         }
+        all.append('|');
+        for (String key : "a g o x yy abc q rr abd la lg lo lx lyy labc lq lrr labd ma mx mq".split(" ")) {
+            all.append(on(key).load(0)).append(on(key).load(2)).append(on(key).follows(-1)).append(' ');
+            all.append(on(key).entry(4)).append(on(key).entry(5)).append(on(key).entry(6)).append(' ');
+        }
+        all.append('|');
         for (int what = 0; what < 14; what++) {
             all.append(x.led(what)).append(' ');
         }
+        all.append('|');
         for (int what = 0; what < 10; what++) {
             all.append(x.count(what)).append(' ');
         }
