@@ -1,281 +1,201 @@
 /** Promises 14 to 17: came, failed, told, load. */
 final class LoadsThatRun extends Script {
-    public static void main(String[] args) {
-        new LoadsThatRun().cameAnswers();
-        new LoadsThatRun().cameLetIn();
-        new LoadsThatRun().cameMadeNew();
-        new LoadsThatRun().cameMadeNewAboveRoom();
-        new LoadsThatRun().cameMadeNewDirty();
-        new LoadsThatRun().cameAboveRoom();
-        new LoadsThatRun().wary();
-        new LoadsThatRun().cameTakesColdOff();
-        new LoadsThatRun().failed();
-        new LoadsThatRun().told();
-        new LoadsThatRun().load();
-        end();
+    // ---- came
+
+    @Says("The LOAD of a KEY CAME: how many it was DELIVERED to.")
+    void p14HowManyItWasDeliveredTo() {
+        x.rule(3, 1);
+        for (int asker = 0; asker < 16; asker++) {
+            on("a").ask(asker);
+        }
+        on("b").ask(0);
+        due(16, on("a").came(5, 1, 0));
+        on("b").giveUp(0);
+        due(0, on("b").came(6, 1, 0));
+        x.step(1);
+        on("a").ask(0);
+        due(0, on("a").came(7, 1, 0));
+        due(3, x.led(4));
+        due(16, x.led(8));
+        // not let in, it is delivered all the same
+        x.rule(0, 1);
+        on("c").ask(3);
+        due(1, on("c").came(8, 2, 0));
+        due(5, x.take(3));
+        due(8, x.take(3));
     }
 
-    void cameAnswers() {
+    @Says("BAD: VALUE, WEIGHT, TAGS (0 .. 255); NO_KEY;")
+    void p14BadThenNoKey() {
         x.rule(4, 1);
         on("a").ask(0);
-        on("b").ask(1);
-        due(BAD, on("a").came(-1, 1, 0));
-        due(BAD, x.came(100000, 1, 0));
-        due(BAD, x.came(0, 0, 0));
-        due(BAD, x.came(0, 21, 0));
-        due(BAD, x.came(0, 1, -1));
-        due(BAD, x.came(0, 1, 256));
+        on("a");
+        for (int value : new int[] {Integer.MIN_VALUE, -1, 100000, Integer.MAX_VALUE}) {
+            due(BAD, x.came(value, 1, 0));
+        }
+        for (int weight : new int[] {Integer.MIN_VALUE, -1, 0, 21, Integer.MAX_VALUE}) {
+            due(BAD, x.came(0, weight, 0));
+        }
+        for (int tags : new int[] {Integer.MIN_VALUE, -1, 256, Integer.MAX_VALUE}) {
+            due(BAD, x.came(0, 1, tags));
+        }
         due(1, x.count(4));
-        due(1, x.came(0, 1, 255));
-        due(0, x.count(4));
+        due(1, x.count(2));
+        due(1, x.came(99999, 20, 255));
+        due(255, on("a").entry(2));
         due(NO_KEY, x.came(0, 1, 0));
         due(NO_KEY, on("aaaaaaa").came(0, 1, 0));
-        due(STATE, on("a").came(0, 1, 0));
-        due(0, x.count(4));
-        on("c").ask(2);
-        due(STATE, on("c").came(0, 1, 0));
-        due(STATE, on("zzz").came(0, 1, 0));
+        due(BAD, x.came(-1, 1, 0));
+        on("b").ask(0);
         due(1, on("b").came(0, 1, 0));
-        due(1, on("c").came(0, 1, 0));
-        due(3, x.led(4));
     }
 
-    void cameLetIn() {
-        on("a").ask(4);
-        on("a").ask(2);
-        on("g").ask(2);
-        x.step(7);
-        int from = bookSize();
-        due(2, on("a").came(12, 3, 5));
-        dueText("4", bookFrom(from));
-        due(7, x.book(from, 1));
-        due(314, x.book(from, 2));
-        int[] want = {12, 3, 5, 2, 3, 1, 7, 0, 0, 0};
-        for (int what = 0; what < 10; what++) {
-            due(want[what], on("a").entry(what));
-        }
-        due(12, x.take(4));
-        due(12, x.take(2));
-        due(1, on("g").came(13, 17, 0));
-        due(2, on("g").entry(5));
-        due(20, x.count(1));
-        due(0, x.led(7));
-        on("o").ask(0);
-        from = bookSize();
-        due(1, on("o").came(1, 1, 0));
-        dueText("7 4", bookFrom(from));
-        dueText("o 1 w1 c1; a 12 w3 c2", entries());
-    }
-
-    void cameMadeNew() {
-        x.rule(3, 1);
-        x.rule(6, 9);
-        bring("a", 1, 5, 1);
-        bring("g", 2, 5, 1);
-        bring("o", 3, 5, 1);
-        bring("w", 4, 5, 1);
-        x.step(2);
-        due(1, on("a").ask(0));
-        on("g").ask(0);
-        on("g").ask(0);
-        int count = on("a").entry(3);
-        int last = on("a").entry(4);
-        int from = bookSize();
-        due(0, on("a").came(9, 14, 6));
-        dueText("7 7 4", bookFrom(from));
-        dueText("o w", coldOnes());
-        due(9, on("a").entry(0));
-        due(14, on("a").entry(1));
-        due(6, on("a").entry(2));
-        due(count, on("a").entry(3));
-        due(last, on("a").entry(4));
-        due(1, on("a").entry(5));
-        due(2, on("a").entry(6));
-        due(19, x.count(1));
-        // as heavy as all the room
-        x.step(1);
-        due(9, on("a").ask(0));
-        due(0, on("a").came(10, 20, 0));
-        dueText("a 10 w20 c3", entries());
-    }
-
-    void cameMadeNewAboveRoom() {
-        x.rule(3, 1);
-        x.rule(6, 9);
-        bring("a", 1, 5, 1);
-        bring("g", 2, 5, 1);
-        x.step(1);
-        due(1, on("a").ask(0));
-        x.rule(0, 10);
-        on("a").write(77);
-        int from = bookSize();
-        due(0, on("a").came(9, 11, 6));
-        dueText("11 7 5", bookFrom(from));
-        dueText("a77", writtenOnes());
-        due(0, x.count(9));
-        due(1, x.led(6));
-        due(1, x.led(7));
-        due(3, x.led(4));
-        dueText("g 2 w5 c1", entries());
-    }
-
-    void cameMadeNewDirty() {
-        x.rule(3, 1);
-        bring("a", 1, 5, 1);
-        x.step(1);
+    @Says("STATE: there is no LOAD of it that RUNS.")
+    void p14StateIfNoneRuns() {
+        x.rule(4, 1);
+        due(STATE, on("zz").came(0, 1, 0));
+        due(0, x.count(4));
         on("a").ask(0);
-        x.rule(3, 0);
-        due(1, on("a").write(50));
-        due(0, on("a").came(9, 6, 2));
-        due(50, on("a").entry(0));
-        due(6, on("a").entry(1));
-        due(2, on("a").entry(2));
-        due(1, on("a").entry(9));
-        due(1, x.flush());
-        dueText("a50", writtenOnes());
+        on("b").ask(1);
+        due(STATE, on("b").came(0, 1, 0));
+        due(1, on("b").load(0));
+        due(1, on("a").came(0, 1, 0));
+        due(STATE, on("a").came(0, 1, 0));
+        due(1, on("b").came(0, 1, 0));
+        due(2, x.led(4));
     }
 
-    void cameAboveRoom() {
-        x.rule(0, 5);
-        bring("g", 1, 5, 0);
+    // ---- failed
+
+    @Says("The LOAD of a KEY FAILED: how many it was DELIVERED to.")
+    void p15HowManyItWasDeliveredTo() {
         on("a").ask(0);
-        int from = bookSize();
-        due(1, on("a").came(8, 6, 0));
-        dueText("5", bookFrom(from));
-        due(8, x.take(0));
-        due(1, x.led(6));
-        dueText("g 1 w5 c1", entries());
+        on("a").ask(15);
+        on("b").ask(0);
+        on("b").giveUp(0);
+        due(2, on("a").failed(1));
+        due(0, on("b").failed(1));
+        due(-1, x.take(0));
+        due(-1, x.take(15));
+        due(NOT, x.take(0));
+        due(2, x.led(5));
     }
 
-    void wary() {
-        x.rule(5, 1);
-        x.rule(2, 10);
-        bring("a", 1, 10, 0);
-        bring("a", 1, 10, 0);
-        bring("g", 2, 10, 0);
-        on("g").ask(0);
-        dueText("a 1 w10 c2; g 2 w10 c2", entries());
-        on("o").ask(0);
-        on("o").ask(0);
-        due(1, on("o").came(3, 1, 0));
-        due(3, x.take(0));
-        due(1, x.led(6));
-        due(NOT, on("o").entry(0));
-        on("o").ask(0);
-        due(1, on("o").came(4, 1, 0));
-        due(4, on("o").entry(0));
-        dueText("g 2 w10 c2; o 4 w1 c3", entries());
-        on("w").ask(0);
-        due(1, on("w").came(5, 9, 0));
-        due(5, on("w").entry(0));
-        due(20, x.count(1));
-        on("ab").ask(1);
-        x.step(10);
-        due(1, on("ab").came(6, 20, 0));
-        due(6, on("ab").entry(0));
-        due(1, x.count(0));
-    }
-
-    void cameTakesColdOff() {
-        x.rule(0, 10);
-        x.rule(6, 2);
-        x.rule(3, 1);
-        bring("g", 2, 5, 0);
-        bring("a", 1, 5, 0);
-        on("a").ask(0);
-        x.step(1);
-        on("a").ask(0);
-        due(2, on("a").load(0));
-        bring("o", 3, 10, 0);
-        dueText("g a", coldOnes());
-        due(0, on("a").came(7, 4, 0));
-        dueText("g o", coldOnes());
-        dueText("a 7 w4 c3", entries());
-        // taken off too, if it is not let in
-        x.step(1);
-        on("a").ask(0);
-        x.rule(0, 3);
-        dueText("o a", coldOnes());
-        due(0, on("a").came(7, 4, 0));
-        dueText("o", coldOnes());
-        due(0, x.count(0));
-    }
-
-    void failed() {
+    @Says("BAD; NO_KEY; STATE.")
+    void p15BadThenNoKeyThenState() {
         x.rule(4, 1);
         on("a").ask(0);
-        on("a").ask(5);
-        on("b").ask(1);
-        due(BAD, on("a").failed(0));
-        due(BAD, x.failed(100));
-        due(BAD, x.failed(-1));
+        on("b").ask(0);
+        for (int code : new int[] {Integer.MIN_VALUE, -1, 0, 100, Integer.MAX_VALUE}) {
+            due(BAD, x.failed(code));
+        }
+        due(BAD, on("a").failed(100));
         due(1, x.count(4));
-        int from = bookSize();
-        due(2, x.failed(99));
-        dueText("6 3", bookFrom(from));
+        due(1, x.failed(99));
         due(NO_KEY, x.failed(1));
         due(NO_KEY, on("b ").failed(1));
         due(STATE, on("a").failed(1));
-        due(-99, x.take(0));
-        due(-99, x.take(5));
+        due(STATE, on("zz").failed(1));
+        on("c").ask(0);
+        due(STATE, on("c").failed(1));
         due(1, on("b").failed(1));
-        due(-1, x.take(1));
         due(2, x.led(5));
-        due(0, x.count(0));
-        x.rule(3, 1);
-        bring("a", 1, 1, 0);
-        x.step(1);
-        due(1, on("a").ask(0));
-        due(0, on("a").failed(3));
-        due(1, on("a").entry(0));
-        due(NOT, x.take(0));
     }
 
-    void told() {
+    // ---- told
+
+    @Says("Byte j of the i-th KEY of TOLD that is kept (from 0, the oldest first); j -1: how many; i -1: how many KEYS are"
+            + " kept.")
+    void p16BytesOfTold() {
+        due(0, x.told(-1, 0));
         due(0, x.told(-1, -1));
-        due(NOT, x.told(0, 0));
-        due(BAD, x.told(-2, 0));
-        due(BAD, x.told(0, -2));
-        for (int i = 0; i < 62; i++) {
-            String key = "t" + (char) ('a' + i / 26) + (char) ('a' + i % 26);
-            due(WAITS, on(key).ask(0));
-            due(1, on(key).failed(1));
-        }
-        due(60, x.told(-1, 0));
-        dueText("tac", text(j -> x.told(0, j)));
-        dueText("tcj", text(j -> x.told(59, j)));
-        due(3, x.told(59, -1));
-        due(NOT, x.told(59, 3));
-        due(NOT, x.told(60, 0));
-        due(NOT, x.told(60, -1));
-        due(BAD, x.told(60, -2));
-        due(62, x.led(2));
+        on("abcdef").ask(0);
+        on("z").ask(0);
+        on("c").ask(0);
+        due(2, x.told(-1, 0));
+        due(2, x.told(-1, 99));
+        dueText("abcdef", text(j -> x.told(0, j)));
+        due(6, x.told(0, -1));
+        due(1, x.told(1, -1));
+        due('z', x.told(1, 0));
     }
 
-    void load() {
+    @Says("BAD; NOT: there are not as many.")
+    void p16BadThenNot() {
+        for (int below : new int[] {-2, Integer.MIN_VALUE}) {
+            due(BAD, x.told(below, 0));
+            due(BAD, x.told(below, below));
+            due(BAD, x.told(0, below));
+        }
+        for (int j : new int[] {-1, 0, Integer.MAX_VALUE}) {
+            due(NOT, x.told(0, j));
+            due(NOT, x.told(Integer.MAX_VALUE, j));
+        }
+        on("abc").ask(0);
+        due('c', x.told(0, 2));
+        due(NOT, x.told(0, 3));
+        due(NOT, x.told(0, Integer.MAX_VALUE));
+        due(NOT, x.told(1, 0));
+        due(NOT, x.told(1, -1));
+        due(BAD, x.told(1, -2));
+    }
+
+    // ---- load
+
+    @Says("Of the LOAD of a KEY: 0: there is none; 1 in line; 2 RUNS (what 0); how many wait for it (1; 0: no LOAD);")
+    void p17StateOfALoadAndHowManyWait() {
         x.rule(4, 1);
         due(0, on("a").load(0));
         due(0, on("a").load(1));
-        due(NOT, on("a").load(2));
         for (int asker = 15; asker >= 0; asker--) {
             on("a").ask(asker);
         }
         on("b").ask(3);
+        due(2, on("a").load(0));
+        due(16, on("a").load(1));
+        due(1, on("b").load(0));
+        due(1, on("b").load(1));
+        on("a").failed(1);
+        due(0, on("a").load(0));
+        due(0, on("a").load(1));
+        due(2, on("b").load(0));
+        on("b").giveUp(3);
+        due(2, on("b").load(0));
+        due(0, on("b").load(1));
+    }
+
+    @Says("the i-th who waits (what 2 + i; NOT: there are not as many).")
+    void p17WhoWaits() {
+        due(NOT, on("a").load(2));
+        due(NOT, on("a").load(Integer.MAX_VALUE));
+        for (int asker = 15; asker >= 0; asker--) {
+            on("a").ask(asker);
+        }
+        on("b").ask(7);
+        for (int i = 0; i < 16; i++) {
+            due(15 - i, on("a").load(2 + i));
+        }
+        due(NOT, on("a").load(18));
+        due(NOT, on("a").load(Integer.MAX_VALUE));
+        due(7, on("b").load(2));
+        due(NOT, on("b").load(3));
+        on("a").giveUp(15);
+        due(14, on("a").load(2));
+        due(NOT, on("a").load(17));
+        on("b").giveUp(7);
+        due(NOT, on("b").load(2));
+    }
+
+    @Says("BAD: what below 0; NO_KEY.")
+    void p17BadBelow0ThenNoKey() {
+        on("a").ask(0);
         due(BAD, on("a").load(-1));
+        due(BAD, x.load(Integer.MIN_VALUE));
         due(1, x.count(4));
         due(2, x.load(0));
         due(NO_KEY, x.load(0));
-        due(16, on("a").load(1));
-        due(15, on("a").load(2));
-        due(0, on("a").load(17));
-        due(NOT, on("a").load(18));
-        due(NOT, on("a").load(Integer.MAX_VALUE));
-        due(1, on("b").load(0));
-        due(3, on("b").load(2));
-        due(NOT, on("b").load(3));
-        on("a").giveUp(14);
-        due(13, on("a").load(3));
-        on("a").ask(14);
-        due(14, on("a").load(17));
+        due(NO_KEY, x.load(2));
+        due(NO_KEY, on("a a").load(1));
+        due(BAD, x.load(-1));
     }
 }

@@ -38,8 +38,10 @@ class Script {
 
     static String text(Bytes bytes) {
         StringBuilder text = new StringBuilder();
-        for (int place = 0; place < 100 && bytes.at(place) > 0; place++) {
-            text.append((char) bytes.at(place));
+        int letter = bytes.at(0);
+        for (int place = 1; place < 100 && letter > 0; place++) {
+            text.append((char) letter);
+            letter = bytes.at(place);
         }
         return text.toString();
     }
@@ -89,9 +91,9 @@ class Script {
         return all.toString();
     }
 
-    /** The kinds of the lines of the book from one on. */
+    /** The kinds of the lines of the book from one on; a full book is no good here, as its lines move. */
     String bookFrom(int from) {
-        StringBuilder all = new StringBuilder();
+        StringBuilder all = new StringBuilder(bookSize() < 40 ? "" : "full ");
         for (int i = from; x.book(i, 0) >= 0; i++) {
             all.append(i == from ? "" : " ").append(x.book(i, 0));
         }
