@@ -320,6 +320,28 @@ final class InThought extends Script {
         due(5, on("o").entry(4));
     }
 
+    @Says("AN IMAGE keeps all but THE TAPE.")
+    void termsImageOfOneUseAlone() {
+        on("a").ask(0);
+        x.image();
+        // as many more as are kept, so that nothing of the first is left
+        for (int i = 0; i < 60; i++) {
+            on("b").ask(0);
+            on("b").failed(1);
+            on("a").giveUp(0);
+        }
+        due('b', x.told(0, 0));
+        x.back();
+        due(1, x.told(-1, 0));
+        due('a', x.told(0, 0));
+        ask("g");
+        due(1, on("a").follows(-1));
+        due(0, on("b").follows(-1));
+        due(2, on("a").load(0));
+        due(1, on("a").load(1));
+        due(0, x.box(0, 0));
+    }
+
     // ---- answers
 
     @Says("Answers, of several the one named first: BAD (-1001): no such number, or it is not as said; NO_KEY (-1002); NOT"

@@ -81,6 +81,24 @@ final class WhatCameToPass extends Script {
         }
     }
 
+    @Says("So far: USES (what 0), HITS (1), LOADS told (2), joined (3), CAME (4), FAILED (5), not LET IN (6), went for place"
+            + " (7), DELIVERIES (8)")
+    void p34WhatGoesOtherwiseIsInNoSum() {
+        x.rule(2, 5);
+        for (String key : "a g o w".split(" ")) {
+            bring(key, 1, 1, key.equals("g") ? 1 : 0);
+        }
+        long[] want = {4, 0, 4, 0, 4, 0, 0, 0, 4, 0, 0, 0, 0, 0};
+        due(1, on("a").drop());
+        due(1, x.dropTag(0));
+        due(1, on("o").dropAll());
+        x.step(5);
+        due(1, x.sweep());
+        for (int what = 0; what < want.length; what++) {
+            due(want[what], x.led(what));
+        }
+    }
+
     @Says("lost from a full BOX (9)")
     void p34LostFromAFullBox() {
         for (int i = 1; i <= 15; i++) {
