@@ -2,12 +2,6 @@
 final class EntriesThatStay extends Script {
     private static final int[] NO_TAGS = {Integer.MIN_VALUE, -1, 8, 31, 32, Integer.MAX_VALUE};
 
-    private void ask(String keys) {
-        for (String key : keys.split(" ")) {
-            on(key).ask(0);
-        }
-    }
-
     // ---- entry
 
     @Says("Of the ENTRY of a KEY (no USE): VALUE (what 0), WEIGHT (1), TAGS (2), COUNT (3), LAST (4), CAME (5), SINCE (6),"

@@ -5,12 +5,6 @@ final class InThought extends Script {
     private static final int ROOM = 0, WINDOW = 1, EXPIRES = 2, AHEAD = 3, LOADERS = 4, COLD = 6, LEASE = 7;
     private static final int LRU = 0, LFU = 1, FIFO = 2, AGED = 3;
 
-    private void ask(String keys) {
-        for (String key : keys.split(" ")) {
-            on(key).ask(0);
-        }
-    }
-
     /** What a call adds to the book, kind and key's number, line by line. */
     private void dueInBook(String want, Runnable calls) {
         int from = bookSize();

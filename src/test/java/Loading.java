@@ -2,12 +2,6 @@
 final class Loading extends Script {
     private static final int ROOM = 0, EXPIRES = 2, AHEAD = 3, LOADERS = 4, WARY = 5, COLD = 6, LEASE = 7;
 
-    private void ask(String keys) {
-        for (String key : keys.split(" ")) {
-            on(key).ask(0);
-        }
-    }
-
     private void bringAll(String keys, int weight) {
         int value = 0;
         for (String key : keys.split(" ")) {

@@ -16,6 +16,13 @@ class Script {
         return x;
     }
 
+    /** Asker 0 asks for these keys, parted by blanks, one behind the other. */
+    void ask(String keys) {
+        for (String key : keys.split(" ")) {
+            on(key).ask(0);
+        }
+    }
+
     void due(long want, long got) {
         made++;
         if (got != want) {

@@ -13,12 +13,6 @@ final class Terms extends Script {
         due(most, x.rule(what, atFirst));
     }
 
-    private void ask(String keys) {
-        for (String key : keys.split(" ")) {
-            on(key).ask(0);
-        }
-    }
-
     /** Time goes on by so many ticks, however many. */
     private void wait(int ticks) {
         for (int left = ticks; left > 0; left -= 1000) {

@@ -2,12 +2,6 @@
 final class WhatCameToPass extends Script {
     private static final int[] NONE_SUCH = {Integer.MIN_VALUE, -1, 14, 15, Integer.MAX_VALUE};
 
-    private void ask(String keys) {
-        for (String key : keys.split(" ")) {
-            on(key).ask(0);
-        }
-    }
-
     // ---- book
 
     @Says("Of the i-th in THE BOOK (from 0, the oldest first): what came to pass (what 0), TICK (1), h (2).")
